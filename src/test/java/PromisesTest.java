@@ -537,6 +537,7 @@ public final class PromisesTest {
         x.sow(1);
         due("lost", x.count(HOW), LOST);
         bests(x, 4, NONE, 0, NONE);
+        due("the most positions that can come", loaded("6,3,1,2,1,1", 1, 0, 1).best(2), 2011);
         // 1,0,1 and 1,0,0/1 with the life; 0,1,1 and 0,1,0/1 (in two ways) without it.
         due("best(2)", loaded("1,0,1", 0, 0, 1).best(2), 4);
     }
@@ -641,6 +642,44 @@ public final class PromisesTest {
         due("undo() of no more", x.undo(), NOT_POSSIBLE);
         undoEachChange();
         undoKeepsPadAndSlots();
+        undoBringsMovesBack();
+    }
+
+    // A relay of pit 3 behind a move of pit 2; another round's moves come over them.
+    private static OneRowSeeds twoMoves() {
+        OneRowSeeds x = new OneRowSeeds();
+        x.sow(2);
+        x.sow(3);
+        return x;
+    }
+
+    private static void otherMoves(OneRowSeeds x) {
+        x.loadExact(2, 3);
+        x.sow(1);
+        x.sow(0);
+        due("move(0)", x.move(0), 0);
+        due("laps", x.count(LAPS), 1);
+    }
+
+    private static void theTwoMoves(OneRowSeeds x) {
+        due("moves", x.count(MOVES), 2);
+        due("kept", x.count(KEPT), 2);
+        due("laps", x.count(LAPS), 2);
+        due("move(0)", x.move(0), 3);
+        due("move(1)", x.move(1), 2);
+        due("back()", x.back(), 3);
+        position(x, "2,2,0,3/1");
+        due("back()", x.back(), 2);
+        position(x, "2,2,2,2/0");
+    }
+
+    private static void undoBringsMovesBack() {
+        OneRowSeeds x = twoMoves();
+        otherMoves(x);
+        x.undo();
+        x.undo();
+        due("undo()", x.undo(), 2);
+        theTwoMoves(x);
     }
 
     private static void undoEachChange() {
@@ -750,11 +789,23 @@ public final class PromisesTest {
         due("back()", x.back(), 0);
         position(x, "1,0,2/3");
         due("the life comes back", x.count(LEFT), 1);
+        restoreBringsMovesBack();
         due("the slot keeps it", x.restore(1), 3);
         position(x, "0,1,2/3");
         x.undo();
         position(x, "1,0,2/3");
         due("no move", x.count(MOVES), 0);
+    }
+
+    private static void restoreBringsMovesBack() {
+        OneRowSeeds x = twoMoves();
+        x.save(0);
+        otherMoves(x);
+        due("restore(0)", x.restore(0), 3);
+        theTwoMoves(x);
+        otherMoves(x);
+        due("restore(0)", x.restore(0), 3);
+        theTwoMoves(x);
     }
 
     private interface Test {
