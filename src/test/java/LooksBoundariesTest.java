@@ -773,6 +773,22 @@ public final class LooksBoundariesTest extends Boundaries {
         due("LIVES is for later rounds", x.best(2), 1);
     }
 
+    @Says("A play is a row of moves that can be made one after the other from the position of now on.")
+    static void p14_best_settingsOfNowCountEachTime() {
+        // Answers that were found with other settings must not be kept.
+        OneRowSeeds[] rounds = {loaded("3,0,5", 1, 0, 1), loaded("5,5,0/1", 1, 0, 0), loaded("2,2,1,4/4", 1, 0, 0)};
+        int[][] without = {{7, 2, 20, NONE}, {2, 0, 1, NONE}, {5, 3, 1, NONE}};
+        int[][] with = {{8, 0, 25, 6}, {11, 0, 9, 6}, {13, 3, 24, 7}};
+        for (int i = 0; i < rounds.length; i++) {
+            for (int times = 0; times < 3; times++) {
+                rounds[i].set(RELAY, 0);
+                bests(rounds[i], without[i][0], without[i][1], without[i][2], without[i][3]);
+                rounds[i].set(RELAY, 1);
+                bests(rounds[i], with[i][0], with[i][1], with[i][2], with[i][3]);
+            }
+        }
+    }
+
     // ---- promise 15: exact
 
     @Says("BAD_VALUE if an argument is out of range.")
